@@ -16,6 +16,7 @@ public final class DirtyCardHeap {
     private static final int MOST_FIELDS = 3;
     private static final int YOUNG_CELLS = 20;
     private static final int OLD_CELLS = 64;
+    private static final int MOST_OBJECTS = YOUNG_CELLS + OLD_CELLS;
     private static final int CARD_CELLS = 8;
     private static final int CARDS = 8;
     private static final int AGE_TO_BECOME_OLD = 2;
@@ -33,7 +34,7 @@ public final class DirtyCardHeap {
     private final Row young = new Row(YOUNG_CELLS);
     private final OldPart old = new OldPart();
     // Kept from call to call so that a collection makes no new row.
-    private final Row reached = new Row(YOUNG_CELLS + OLD_CELLS);
+    private final Row reached = new Row(MOST_OBJECTS);
 
     // Sets of cards: bit c stands for card c.
     private int dirty;
@@ -269,8 +270,8 @@ public final class DirtyCardHeap {
         return young.cellsTaken() + size <= YOUNG_CELLS;
     }
 
-    /** Places a young object in the old part, if it has a place there. */
-    private boolean becomesOld(Thing thing) {
+    /** Makes a young object old if it has a place; answers whether it had. */
+    private boolean placeAsOld(Thing thing) {
         int place = old.findPlace(thing.size());
         if (place == NONE) {
             return false;
@@ -289,7 +290,7 @@ public final class DirtyCardHeap {
             reachYoung(roots[r]);
         }
         reachFromCards(dirtyBefore);
-        for (int i = 0; i < reached.count; i++) {
+        for (int i = 0; i < MOST_OBJECTS && i < reached.count; i++) {
             reachFields(reached.things[i]);
         }
         dropUnreachedYoung();
@@ -305,7 +306,7 @@ public final class DirtyCardHeap {
         }
         thing.age = Math.min(thing.age + 1, GREATEST_AGE);
         if (thing.age >= AGE_TO_BECOME_OLD) {
-            becomesOld(thing);
+            placeAsOld(thing);
         }
     }
 
@@ -365,7 +366,7 @@ public final class DirtyCardHeap {
         currentPhase = IDLE;
         keepReachedYoung();
         reached.letGo();
-        int becameOld = ageOutYoung();
+        int becameOld = placeYoungInOrder();
         noted = 0;
         dirty = old.cardsReferringToYoung();
         return becameOld;
@@ -375,7 +376,7 @@ public final class DirtyCardHeap {
         for (int r = 0; r < ROOTS; r++) {
             reached.reach(roots[r]);
         }
-        for (int i = 0; i < reached.count; i++) {
+        for (int i = 0; i < MOST_OBJECTS && i < reached.count; i++) {
             Thing thing = reached.things[i];
             for (int k = 0; k < thing.fields.length; k++) {
                 reached.reach(thing.fields[k]);
@@ -395,10 +396,10 @@ public final class DirtyCardHeap {
     }
 
     /** Moves the young objects over in their order, up to the first that has no place. */
-    private int ageOutYoung() {
+    private int placeYoungInOrder() {
         int before = young.count;
         int becameOld = 0;
-        while (becameOld < before && becomesOld(young.things[becameOld])) {
+        while (becameOld < before && placeAsOld(young.things[becameOld])) {
             becameOld++;
         }
         young.empty();

@@ -499,11 +499,11 @@ public final class PromisesTest {
         h.clear(1);
         h.create(4, 0, 40);
         h.create(5, 1, 50);
-        h.create(1, 0, 10);
-        h.clear(1);
         h.begin();
         h.collect(false);
         due("noted: cards()", h.cards(), (2 | 1) << 8);
+        h.create(1, 0, 10);
+        h.clear(1);
         due("collect(true)", h.collect(true), 2);
         due("phase()", h.phase(), 0);
         due("marked()", h.marked(), 0);
