@@ -5,64 +5,7 @@ import java.lang.reflect.Modifier;
 import java.util.TreeSet;
 
 /** Each promise of the document by hand: ordinary inputs, the edges it names, and wrong inputs. */
-public final class PromisesTest {
-    private static final int NOROOT = -2;
-    private static final int NULL = -3;
-    private static final int NOFIELD = -4;
-    private static final int NOMEMORY = -5;
-    private static final int PHASE = -6;
-    private static final int[] NO_ROOTS = {-1, 6, 7, Integer.MIN_VALUE, Integer.MAX_VALUE};
-
-    private static String test = "";
-    private static int asked = 0;
-    private static int wrong = 0;
-
-    private static void due(String call, long got, long want) {
-        asked++;
-        if (got != want) {
-            wrong++;
-            System.out.println(test + ": " + call + " answered " + got + ", due is " + want);
-        }
-    }
-
-    private static void due(String call, boolean got, boolean want) {
-        due(call, got ? 1 : 0, want ? 1 : 0);
-    }
-
-    // ---- Heaps in the state that a test wants
-
-    /** Old objects with so many fields each, in roots 0 on, from address 0 on; no card dirty. */
-    private static DirtyCardHeap withOld(int... fields) {
-        DirtyCardHeap h = new DirtyCardHeap();
-        for (int r = 0; r < fields.length; r++) {
-            h.create(r, fields[r], 100 + r);
-        }
-        h.collect(false);
-        h.collect(false);
-        return h;
-    }
-
-    /** A chain of reachable objects of 4 cells that fills the old part and all of the young one. */
-    private static DirtyCardHeap filled() {
-        DirtyCardHeap h = new DirtyCardHeap();
-        for (int i = 1; i <= 21; i++) {
-            due("create of link " + i, h.create(0, 3, i), 0);
-            due("store of link " + i, h.store(0, 0, 1), 0);
-            h.copy(1, 0);
-        }
-        return h;
-    }
-
-    /** Ends the phases that are open, so that unreachable old objects are freed. */
-    private static void freeGarbage(DirtyCardHeap h) {
-        h.begin();
-        h.remark();
-        for (int i = 0; i < 65 && h.phase() == 2; i++) {
-            h.sweep();
-        }
-    }
-
-    // ---- The promises
+public final class PromisesTest extends Checks {
 
     private static void publicFace() {
         TreeSet<String> seen = new TreeSet<>();
@@ -841,18 +784,6 @@ public final class PromisesTest {
     }
 
     public static void main(String[] args) throws ReflectiveOperationException {
-        int tests = 0;
-        for (Method m : PromisesTest.class.getDeclaredMethods()) {
-            // Every method that takes nothing and answers nothing is a test.
-            if (m.getParameterCount() == 0 && m.getReturnType() == void.class) {
-                test = m.getName();
-                m.invoke(null);
-                tests++;
-            }
-        }
-        System.out.println(tests + " tests, " + asked + " answers, " + wrong + " not as due");
-        if (wrong != 0) {
-            System.exit(1);
-        }
+        run(PromisesTest.class, false);
     }
 }
