@@ -1,3 +1,4 @@
+import java.lang.reflect.InvocationTargetException;
 import java.lang.reflect.Method;
 import java.util.Comparator;
 import java.util.Objects;
@@ -28,10 +29,14 @@ abstract class Checks {
     static void due(String call, String got, String want) {
         asked++;
         if (!Objects.equals(got, want)) {
-            wrong++;
-            System.out.println(test + ": " + call + " answered " + got + ", due is " + want
+            fail(call + " answered " + got + ", due is " + want
                     + (sentence.isEmpty() ? "" : ": '" + sentence + "'"));
         }
+    }
+
+    private static void fail(String why) {
+        wrong++;
+        System.out.println(test + ": " + why);
     }
 
     static void due(String call, long got, long want) {
@@ -46,7 +51,9 @@ abstract class Checks {
     static void says(String words) {
         sentence = words;
         String other = sentences.put(words, test);
-        due("another test of '" + words + "'", other, null);
+        if (other != null) {
+            fail("its sentence is that of " + other + ": '" + words + "'");
+        }
     }
 
     /** The same for words of a promise, which may stand in others too. */
@@ -62,6 +69,14 @@ abstract class Checks {
         due("what follows after " + call, goneOn(called), goneOn(heap.get()));
     }
 
+    /** The same in each phase, and where no card is dirty. */
+    static void refusedInEachPhase(String call, ToLongFunction<DirtyCardHeap> made, long code) {
+        refused("quiet: " + call, Checks::quiet, made, code);
+        refused("idle: " + call, Checks::busyIdle, made, code);
+        refused("marking: " + call, Checks::busyMarking, made, code);
+        refused("sweeping: " + call, Checks::busySweeping, made, code);
+    }
+
     /** Runs every method that takes nothing and answers nothing, in the order of the names. */
     static void run(Class<?> tests, boolean eachHasItsSentence) throws ReflectiveOperationException {
         Method[] methods = Stream.of(tests.getDeclaredMethods())
@@ -73,9 +88,17 @@ abstract class Checks {
             sentence = "";
             int before = asked;
             m.setAccessible(true);
-            m.invoke(null);
-            due("asking anything", asked > before, true);
-            due("naming its sentence", !sentence.isEmpty(), eachHasItsSentence);
+            try {
+                m.invoke(null);
+            } catch (InvocationTargetException e) {
+                fail("a call threw " + e.getCause());
+            }
+            if (asked == before) {
+                fail("it asks nothing");
+            }
+            if (sentence.isEmpty() == eachHasItsSentence) {
+                fail(eachHasItsSentence ? "it names no sentence" : "it names a sentence");
+            }
         }
         System.out.println(methods.length + " tests, " + asked + " answers, " + wrong + " not as due");
         if (wrong != 0 || methods.length == 0) {
@@ -225,11 +248,17 @@ abstract class Checks {
 
     /**
      * Roots 0 to 3 hold old objects with 1, 3, 0 and 2 fields at 0, 2, 6 and 7, root 4 a young one
-     * with 2 fields, root 5 is null; a card is dirty. The same holds for the two that follow.
+     * with 2 fields, root 5 is null; no card is dirty.
      */
-    static DirtyCardHeap busyIdle() {
+    static DirtyCardHeap quiet() {
         DirtyCardHeap h = withOld(1, 3, 0, 2);
         h.create(4, 2, 44);
+        return h;
+    }
+
+    /** As in quiet(), but a card is dirty; the roots are the same in the two that follow. */
+    static DirtyCardHeap busyIdle() {
+        DirtyCardHeap h = quiet();
         h.store(4, 0, 1);
         h.store(1, 2, 4);
         return h;

@@ -1,5 +1,3 @@
-import java.util.function.ToLongFunction;
-
 /** The document's terms: each sentence that names a boundary case has a test of its own here. */
 public final class EdgesOfTermsTest extends Checks {
 
@@ -79,6 +77,43 @@ public final class EdgesOfTermsTest extends Checks {
         h.clear(5);
         due("address(5)", h.address(5), NULL);
         due("address(4)", h.address(4), -1);
+    }
+
+    private static void youngOldOrGone() {
+        says("An object is YOUNG, or OLD, or GONE.");
+        DirtyCardHeap h = new DirtyCardHeap();
+        h.create(0, 2, 10);
+        due("young: age(0)", h.age(0), 0);
+        due("address(0)", h.address(0), -1);
+        due("youngCells()", h.youngCells(), 3);
+        due("oldCells()", h.oldCells(), 0);
+        h.collect(true);
+        due("old: age(0)", h.age(0), -1);
+        due("address(0)", h.address(0), 0);
+        due("youngCells()", h.youngCells(), 0);
+        due("oldCells()", h.oldCells(), 3);
+        h.clear(0);
+        h.collect(true);
+        due("gone: youngCells()", h.youngCells(), 0);
+        due("oldCells()", h.oldCells(), 0);
+    }
+
+    private static void theYoungStandInAnOrder() {
+        says("The young objects stand in an order, the YOUNG ORDER");
+        // An object keeps its place in the order, whatever root or field comes to refer to it.
+        DirtyCardHeap h = new DirtyCardHeap();
+        h.create(3, 0, 13);
+        h.create(4, 1, 14);
+        h.create(5, 0, 15);
+        h.copy(0, 5);
+        h.copy(2, 4);
+        h.store(4, 0, 3);
+        h.clear(3);
+        due("collect(true)", h.collect(true), 3);
+        h.load(3, 4, 0);
+        due("address(3)", h.address(3), 0);
+        due("address(4)", h.address(4), 1);
+        due("address(5)", h.address(5), 3);
     }
 
     private static void reachableByFields() {
@@ -229,6 +264,17 @@ public final class EdgesOfTermsTest extends Checks {
         due("what is left of a hole is too small: address(4)", h.address(4), 3);
         addOld(h, 4, 0);
         due("but not for a smaller one: address(4)", h.address(4), 1);
+
+        for (int n = 0; n <= 3; n++) {
+            // Holes of 4, 3 and 2 cells: the first is taken, even if a later one would just do.
+            h = withOld(3, 0, 2, 0, 1, 0);
+            h.clear(0);
+            h.clear(2);
+            h.clear(4);
+            freeGarbage(h);
+            addOld(h, 0, n);
+            due("with " + n + " fields: address(0)", h.address(0), 0);
+        }
 
         h = withOld(0, 0, 0, 0, 0);
         for (int r = 0; r < 4; r++) {
@@ -773,6 +819,23 @@ public final class EdgesOfTermsTest extends Checks {
         }
     }
 
+    private static void cardsAreLookedAtLast() {
+        says("At last every dirty card on which no cell of an old object's field refers to a young object");
+        // When the collection begins, card 0 refers to no young object; what becomes old there does.
+        DirtyCardHeap h = withOld(1);
+        h.create(1, 1, 11);
+        h.collect(false);
+        h.create(2, 0, 12);
+        h.store(1, 0, 2);
+        h.begin();
+        h.store(0, 0, 5);
+        due("cards()", h.cards(), 1);
+        due("collect(false)", h.collect(false), 1);
+        due("address(1)", h.address(1), 2);
+        due("address(2)", h.address(2), -1);
+        due("it stays dirty, and is not noted: cards()", h.cards(), 1);
+    }
+
     // ---- The full collection
 
     private static void theUnreachableAreGone() {
@@ -962,12 +1025,6 @@ public final class EdgesOfTermsTest extends Checks {
         refusedInEachPhase("same(0, 1)", h -> h.same(0, 1) ? 1 : 0, 0);
         refusedInEachPhase("address(5)", h -> h.address(5), NULL);
         refusedInEachPhase("age(5)", h -> h.age(5), NULL);
-    }
-
-    private static void refusedInEachPhase(String call, ToLongFunction<DirtyCardHeap> made, long code) {
-        refused("idle: " + call, Checks::busyIdle, made, code);
-        refused("marking: " + call, Checks::busyMarking, made, code);
-        refused("sweeping: " + call, Checks::busySweeping, made, code);
     }
 
     private static void aCallOfAnotherPhaseChangesNothing() {
